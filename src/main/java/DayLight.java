@@ -1,8 +1,8 @@
 /**
  * Light by day: desks in a plan of walls and windows, lit by sixteen patches of sky and the sun.
  *
- * <p>Rays, blinds and light are never kept from call to call: a call that asks for them works them
- * out from the plan, the desks and the hours as they are then, in rows made once by the constructor.
+ * <p>Rays, blinds and light are not kept from call to call: a call that asks for them works them
+ * out from the plan, the desks and the hours as they are then, in rows that the constructor made.
  */
 public final class DayLight {
   public static final int NONE = -1, UNKNOWN = -2, OUTSIDE = -3, NOT = -4, FULL = -5;
@@ -30,7 +30,7 @@ public final class DayLight {
   private static final int MOST_END = 1;
 
   /** What loss answers where no loss can be told, since every small number may be a loss. */
-  private static final int NO_LOSS = Integer.MIN_VALUE;
+  private static final int NO_LOSS = -2147483648;
 
   /**
    * The share 1, as the count of the smallest parts that a share can have: a ray goes to seven
@@ -543,8 +543,8 @@ public final class DayLight {
     }
 
     /**
-     * The share of a ray with the blinds of some windows (bits) down. Glass is a factor of the share
-     * with all blinds up, so to divide by it, which leaves one eighth, is exact.
+     * The share of a ray with the blinds of some windows (bits) down. Glass is a factor of the
+     * share with all blinds up, so to divide by it, which leaves one eighth, is exact.
      */
     private long shareUnder(Plan plan, Desks desks, int desk, int patch, long lowered) {
       int ray = rayNumber(desk, patch);

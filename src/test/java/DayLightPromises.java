@@ -278,6 +278,12 @@ public final class DayLightPromises {
     due("7: from within a wall", d.ray(0, 8), 8);
     d.cell(0, 3, 1);
     due("7: a wall in the last cell", d.ray(0, 8), NONE);
+    d.move(0, 5, 5);
+    int[][] lasts = {{0, 7, 5}, {4, 5, 7}, {8, 0, 5}, {12, 5, 0}, {10, 0, 0}, {2, 7, 7}};
+    for (int[] last : lasts) {
+      d.cell(last[1], last[2], 1);
+      due("7: a wall at the edge, patch " + last[0], d.ray(0, last[0]), NONE);
+    }
     int[] patches = {Integer.MIN_VALUE, -1, 16, Integer.MAX_VALUE};
     for (int patch : patches) {
       due("7: patch " + patch, d.ray(0, patch), UNKNOWN);
@@ -298,6 +304,9 @@ public final class DayLightPromises {
     due("8: clear glass", d.sky(0), 1000);
     d.window(4, 3, 4, false);
     due("8: 15.5 of 16", d.sky(0), 968);
+    d.window(4, 3, 1, false);
+    due("8: 15.125 of 16", d.sky(0), 945);
+    d.window(4, 3, 4, false);
     d.window(6, 3, 2, false);
     due("8: one times the other: 15.125 of 16", d.sky(0), 945);
     d.cell(7, 3, 1);
@@ -605,6 +614,42 @@ public final class DayLightPromises {
     due("15: no such desk", d.light(2, 0, 0), UNKNOWN);
     due("15: desk -1", d.light(-1, 0, 0), UNKNOWN);
     sevenBlinds();
+    lastBlinds();
+    blindsOfFourDesks();
+  }
+
+  private static void blindsOfFourDesks() {
+    DayLight d = oneDesk();
+    d.desk(7, 3);
+    d.desk(4, 4);
+    d.desk(7, 7);
+    d.window(5, 3, 8, true);
+    d.window(0, 4, 8, true);
+    d.window(2, 7, 8, true);
+    d.bright(0, 128);
+    d.sun(0, 8, 1000);
+    due("15: down by the second desk", d.down(5, 3, 0), 1);
+    due("15: down by the third desk", d.down(0, 4, 0), 1);
+    due("15: down by the fourth desk", d.down(2, 7, 0), 1);
+    // Patch 0 goes to (7, 3) and ends there: the blind in (0, 4) is not on it.
+    due("15: one blind of another desk: 121 and 1000", d.light(0, 0, 0), 1121);
+    // Patch 11 goes to (5, 3), patch 8 to (2, 7).
+    due("15: two blinds: 114 and 125", d.light(3, 0, 0), 239);
+  }
+
+  /** Blinds in the last cells of rays; glass of two eighths, so that a blind takes half. */
+  private static void lastBlinds() {
+    int[][] lasts = {{0, 7, 3}, {4, 3, 7}, {8, 0, 3}, {12, 3, 0}, {10, 0, 0}, {2, 7, 7}};
+    for (int[] last : lasts) {
+      DayLight d = oneDesk();
+      d.law(0, 0);
+      d.window(last[1], last[2], 2, true);
+      d.bright(0, 16);
+      d.sun(0, last[0], 80);
+      due("15: a blind at the edge: 15.125 and 10, patch " + last[0], d.light(0, 0, 0), 25);
+      d.law(1000, 0);
+      due("15: it is up: 15.25 and 20, patch " + last[0], d.light(0, 0, 0), 35);
+    }
   }
 
   private static void sevenBlinds() {
@@ -779,6 +824,8 @@ public final class DayLightPromises {
     d.window(4, 3, 8, true);
     best("a cell that is a window now", d, 5000, 14, 3000, 2);
     due("18: the plan is as it was", d.count(3), 4);
+    due("18: walls have no glass by it", d.at(3, 4, 1), 0);
+    due("18: walls have no blind by it", d.at(3, 4, 2), 0);
     due("18: the window is as it was", d.at(4, 3, 2), 1);
     due("18: the offers stay", d.count(1), 5);
     d.lose(0);
