@@ -1794,7 +1794,8 @@ public final class DayLightBounds {
       keep
       """;
 
-  // A call in these that is refused could hide what a refused call changes: the last but one is.
+  // A refused call among these could itself change what it must not, and so hide that another did:
+  // the one that there is, loss(2), stands at the end.
   private static final Scene BUSY = new Scene(BUSY_MADE, SHOWN_FIRST
       + SHOWN_OF_DESKS.replace("DESKS", "0..2") + SHOWN_OF_BLINDS + SHOWN_LAST);
   private static final Scene FULL = new Scene(FULL_MADE, SHOWN_FIRST
