@@ -1404,6 +1404,29 @@ public final class DayLightBounds {
         make 5000 = 9
         at 4|2 3 1 = 8
         """);
+    sentence("no two of one CELL: those beside one another are two", """
+        desk 3 3 = 0
+        cell 4|5 3 1 = 0
+        cell 3 4|5 1 = 0
+        bright 0 300 = 1
+        offer 4|5 3 8 1 = 0 1
+        offer 3 4|5 8 1 = 2 3
+        best 5000 0..2 = 15 4 1
+        best 3 0..2 = 0
+        make 0 = 0
+        offer 5|4 3 8 1 = 0 1
+        offer 3 5|4 8 1 = 2 3
+        best 5000 0..2 = 15 4 1
+        new
+        desk 6 3 = 0
+        desk 1 4 = 1
+        cell 7 3 1 = 0
+        cell 0 4 1 = 0
+        bright 0 300 = 1
+        offer 7 3 8 1 = 0  # the end of a row
+        offer 0 4 8 1 = 1  # and the beginning of the next
+        best 5000 0..2 = 3 2 2
+        """);
     sentence("each costs its PRICES together", """
         desk 3 3 = 0
         cell 2|4 3 1 = 0
